@@ -27,6 +27,7 @@ public final class PromisesTest {
         greatest();
         follows();
         same();
+        questionsOfOneSolution();
         Check.end();
     }
 
@@ -521,25 +522,45 @@ public final class PromisesTest {
         for (int w = 1; w <= 4; w++) {
             BitBlaster x = withVariables(w);
             Check.due("solvable() without a constraint", x.solvable(), 1);
-            x.constant(-1);
-            for (int v = 0; v < 3; v++) {
-                x.compare(BitBlaster.EQUAL, v, 3);
-                x.require(v, 1);
-            }
-            Check.due("solvable() by the last assignment alone", x.solvable(), 1);
-            Check.due("count() of it", x.count(), 1);
-            x.require(1, 0);
+            x.compare(BitBlaster.EQUAL, 0, 1);
+            x.require(0, 1);
+            Check.due("solvable() with a constraint", x.solvable(), 1);
+            x.require(0, 0);
             Check.due("solvable() with both signs", x.solvable(), 0);
             x.release();
             Check.due("solvable() after release", x.solvable(), 1);
         }
-        BitBlaster x = withVariables(4);
-        x.constant(0);
+    }
+
+    /** The one solution is the first assignment of all, or the last: no question may miss it. */
+    private static void questionsOfOneSolution() {
+        for (int w = 1; w <= 4; w++) {
+            int greatestWord = sizeOf(w) - 1;
+            questionsOfOneSolution(w, 0, 0);
+            questionsOfOneSolution(w, greatestWord, numberOf(w, greatestWord, greatestWord, greatestWord));
+        }
+    }
+
+    private static void questionsOfOneSolution(int w, int word, int number) {
+        BitBlaster x = withVariables(w);
+        x.constant(word);
+        x.invert(3);
         for (int v = 0; v < 3; v++) {
             x.compare(BitBlaster.EQUAL, v, 3);
             x.require(v, 1);
         }
-        Check.due("solvable() by the first assignment alone", x.solvable(), 1);
+        x.compare(BitBlaster.EQUAL, 0, 4);
+        String where = " where only " + number + " is a solution, width " + w;
+        Check.due("solvable()" + where, x.solvable(), 1);
+        Check.due("count()" + where, x.count(), 1);
+        Check.due("next(-1)" + where, x.next(-1), number);
+        Check.due("next after it" + where, x.next(number), -1);
+        for (int v = 0; v < 3; v++) {
+            Check.due("least(" + v + ")" + where, x.least(v), word);
+            Check.due("greatest(" + v + ")" + where, x.greatest(v), word);
+            Check.due("follows(" + v + ")" + where, x.follows(v), 1);
+        }
+        Check.due("follows(3)" + where, x.follows(3), 0);
     }
 
     private static void next() {
@@ -606,18 +627,14 @@ public final class PromisesTest {
         Check.due("least(2)", x.least(2), 2);
         x.constant(7);
         Check.due("least of the greatest word", x.least(3), 7);
-        leastRefused(x);
-        x.require(0, 0);
-        Check.due("least(0) without a solution", x.least(0), -2);
-        Check.due("least(4) without a solution", x.least(4), -1);
-        Check.due("least of a variable, no constraint", withVariables(4).least(2), 0);
-    }
-
-    private static void leastRefused(BitBlaster x) {
         int[] bad = {MIN, -1, 4, 28, MAX};
         for (int term : bad) {
             Check.due("least(" + term + ")", x.least(term), -1);
         }
+        x.require(0, 0);
+        Check.due("least(0) without a solution", x.least(0), -2);
+        Check.due("least(4) without a solution", x.least(4), -1);
+        Check.due("least of a variable, no constraint", withVariables(4).least(2), 0);
     }
 
     private static void greatest() {
