@@ -2,15 +2,32 @@
 final class Check {
     private static int checked = 0;
     private static int wrong = 0;
+    private static int sentences = 0;
+    private static String where = "";
 
     private Check() {
+    }
+
+    /** The test of one sentence of the document: what it finds wrong is told under that sentence. */
+    static void sentence(String sentence, Runnable test) {
+        int checkedBefore = checked;
+        where = sentence + ": ";
+        try {
+            test.run();
+        } catch (RuntimeException thrown) {
+            // No call may throw, and the tests of the other sentences are still of interest.
+            isTrue("nothing is thrown, but " + thrown, false);
+        }
+        isTrue("the sentence is tested", checked > checkedBefore);
+        sentences++;
+        where = "";
     }
 
     static void due(String what, long got, long want) {
         checked++;
         if (got != want) {
             wrong++;
-            System.out.println(what + " answered " + got + ", due is " + want);
+            System.out.println(where + what + " answered " + got + ", due is " + want);
         }
     }
 
@@ -18,12 +35,13 @@ final class Check {
         checked++;
         if (!truth) {
             wrong++;
-            System.out.println("not so: " + what);
+            System.out.println(where + "not so: " + what);
         }
     }
 
     static void end() {
-        System.out.println(checked + " checks, " + wrong + " wrong");
+        String tested = sentences > 0 ? sentences + " sentences, " : "";
+        System.out.println(tested + checked + " checks, " + wrong + " wrong");
         if (wrong != 0) {
             System.exit(1);
         }
