@@ -478,7 +478,7 @@ public final class BoundariesTest {
         Check.sentence("11. -2 if there are 10 constraints", () -> forEachWidth(w -> {
             BitBlaster x = Fixture.with(w, 3, 2, 9);
             int solutions = x.count();
-            int sign = x.holds(0, 1);
+            int sign = x.holds(0, 0);
             Check.due("require with 9 constraints", x.require(0, sign), 10);
             Check.due("require with 10 constraints", x.require(0, 1 - sign), -2);
             Check.due("require with 10 constraints again", x.require(1, sign), -2);

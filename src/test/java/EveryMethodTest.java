@@ -1,7 +1,10 @@
 import java.util.ArrayList;
 import java.util.List;
 
-/** What the document says under 'Terms' for every method, each sentence with a test of its own. */
+/**
+ * What the document says for every method alike, most of it under 'Terms', each sentence with a
+ * test of its own.
+ */
 public final class EveryMethodTest {
     private static final int MIN = Fixture.MIN;
     private static final int MAX = Fixture.MAX;
@@ -33,6 +36,7 @@ public final class EveryMethodTest {
         solutions();
         order();
         good();
+        calls();
         Check.sentence("A refused call changes nothing", EveryMethodTest::refusedCalls);
         Check.sentence("No question changes anything", EveryMethodTest::questions);
         Check.end();
@@ -421,12 +425,32 @@ public final class EveryMethodTest {
         });
     }
 
+    private static void calls() {
+        Check.sentence("used for at most 512 calls: the last of them answers as the first", () -> {
+            for (int w = 1; w <= 4; w++) {
+                BitBlaster x = new BitBlaster(w);
+                x.variable(0);
+                x.variable(2);
+                x.compare(BitBlaster.EQUAL, 0, 1);
+                int all = Fixture.lastNumber(w) + 1;
+                for (int before = 3; before < 510; before += 3) {
+                    Check.due("require after " + before + " calls", x.require(0, 1), 1);
+                    Check.due("count after that", x.count(), all / Fixture.words(w));
+                    Check.due("release after that", x.release(), 0);
+                }
+                Check.due("the making of a term by call 511", x.invert(1), 2);
+                Check.due("the value of that term, as call 512", x.valueOf(2, 0), Fixture.lastWord(w));
+            }
+        });
+    }
+
     private static List<State> states(int w) {
         return List.of(
             new State(w, 0, 0, 0, true),
             new State(w, 1, 5, 0, true),
             new State(w, 5, 2, 1, true),
             new State(w, 5, 2, 3, false),
+            new State(w, 7, 10, 10, true),
             new State(w, 28, 16, 0, true),
             new State(w, 28, 2, 10, true),
             new State(w, 3, 16, 10, true),
@@ -434,28 +458,18 @@ public final class EveryMethodTest {
     }
 
     private static void refusedCalls() {
-        for (int w = 1; w <= 3; w++) {
+        for (int w = 1; w <= 4; w++) {
             for (State state : states(w)) {
-                for (Due refused : refusals(state)) {
-                    leavesAllAsItWas(state, List.of(refused));
-                }
+                leaveAllAsItWas(state, refusals(state));
             }
-        }
-        for (State state : states(4)) {
-            leavesAllAsItWas(state, refusals(state));
         }
     }
 
     private static void questions() {
-        for (int w = 1; w <= 3; w++) {
+        for (int w = 1; w <= 4; w++) {
             for (State state : states(w)) {
-                for (Due question : askings(state)) {
-                    leavesAllAsItWas(state, List.of(question));
-                }
+                leaveAllAsItWas(state, askings(state));
             }
-        }
-        for (State state : states(4)) {
-            leavesAllAsItWas(state, askings(state));
         }
     }
 
@@ -539,56 +553,66 @@ public final class EveryMethodTest {
         }
     }
 
-    /** Questions of every method; what they answer is not asked here, but that of a second time. */
+    /** Questions of every method, with what each answers where no other has been asked before. */
     private static List<Due> askings(State state) {
-        BitBlaster asked = state.make();
         int last = Fixture.lastNumber(state.w);
         List<Due> calls = new ArrayList<>();
-        addAsking(calls, asked, "width()", x -> x.width());
-        addAsking(calls, asked, "terms()", x -> x.terms());
-        addAsking(calls, asked, "tests()", x -> x.tests());
-        addAsking(calls, asked, "solvable()", x -> x.solvable());
-        addAsking(calls, asked, "count()", x -> x.count());
+        addAsking(calls, state, "width()", x -> x.width());
+        addAsking(calls, state, "terms()", x -> x.terms());
+        addAsking(calls, state, "tests()", x -> x.tests());
+        addAsking(calls, state, "solvable()", x -> x.solvable());
+        addAsking(calls, state, "count()", x -> x.count());
         for (int after : new int[] {MIN, -1, 0, 3, last - 1, last, MAX}) {
-            addAsking(calls, asked, "next(" + after + ")", x -> x.next(after));
+            addAsking(calls, state, "next(" + after + ")", x -> x.next(after));
         }
         for (int index : new int[] {-1, 0, 1, 4, 15, 27, 28}) {
-            addAsking(calls, asked, "valueOf(" + index + ", 1)", x -> x.valueOf(index, 1));
-            addAsking(calls, asked, "valueOf(0, " + index + ")", x -> x.valueOf(0, index));
-            addAsking(calls, asked, "holds(" + index + ", 1)", x -> x.holds(index, 1));
-            addAsking(calls, asked, "holds(0, " + index + ")", x -> x.holds(0, index));
-            addAsking(calls, asked, "least(" + index + ")", x -> x.least(index));
-            addAsking(calls, asked, "greatest(" + index + ")", x -> x.greatest(index));
-            addAsking(calls, asked, "follows(" + index + ")", x -> x.follows(index));
-            addAsking(calls, asked, "same(" + index + ", 0)", x -> x.same(index, 0));
-            addAsking(calls, asked, "same(0, " + index + ")", x -> x.same(0, index));
+            addAsking(calls, state, "valueOf(" + index + ", 1)", x -> x.valueOf(index, 1));
+            addAsking(calls, state, "valueOf(0, " + index + ")", x -> x.valueOf(0, index));
+            addAsking(calls, state, "holds(" + index + ", 1)", x -> x.holds(index, 1));
+            addAsking(calls, state, "holds(0, " + index + ")", x -> x.holds(0, index));
+            addAsking(calls, state, "least(" + index + ")", x -> x.least(index));
+            addAsking(calls, state, "greatest(" + index + ")", x -> x.greatest(index));
+            addAsking(calls, state, "follows(" + index + ")", x -> x.follows(index));
+            addAsking(calls, state, "same(" + index + ", 0)", x -> x.same(index, 0));
+            addAsking(calls, state, "same(0, " + index + ")", x -> x.same(0, index));
         }
         return calls;
     }
 
-    private static void addAsking(List<Due> calls, BitBlaster asked, String text, Call call) {
-        calls.add(new Due(text, call.on(asked), call));
+    private static void addAsking(List<Due> calls, State state, String text, Call call) {
+        calls.add(new Due(text, call.on(state.make()), call));
     }
 
-    /** Everything that can be asked answers the same, whether the calls have been made or not. */
-    private static void leavesAllAsItWas(State state, List<Due> calls) {
+    /** Everything that can be asked answers the same, be it after one of the calls, or after none. */
+    private static void leaveAllAsItWas(State state, List<Due> calls) {
+        List<Integer> untouched = everythingAfter(state, List.of());
+        if (state.w <= 3) {
+            for (Due due : calls) {
+                Check.isTrue(due.text + " changes nothing in " + state,
+                    everythingAfter(state, List.of(due)).equals(untouched));
+            }
+        }
+        Check.isTrue("all calls together change nothing in " + state,
+            everythingAfter(state, calls).equals(untouched));
+    }
+
+    private static List<Integer> everythingAfter(State state, List<Due> calls) {
         List<Asking> parts = List.of(EveryMethodTest::askCounts, EveryMethodTest::askValues,
-            EveryMethodTest::askTruths, EveryMethodTest::releaseAll, EveryMethodTest::goOnMaking);
+            EveryMethodTest::askMoreValues, EveryMethodTest::askTruths, EveryMethodTest::releaseAll,
+            EveryMethodTest::goOnMaking);
+        List<Integer> answers = new ArrayList<>();
         // A new object for each part, as no object is good for more than 512 calls.
         for (Asking part : parts) {
-            List<Integer> untouched = new ArrayList<>();
-            part.ask(state.make(), state.w, untouched);
             BitBlaster x = state.make();
-            for (Due due : calls) {
-                Check.due(due.text + " in " + state, due.call.on(x), due.answer);
-                Check.due(due.text + " again in " + state, due.call.on(x), due.answer);
+            // Three times: after two a change that each call turns back would not be seen.
+            for (int time = 1; time <= 3; time++) {
+                for (Due due : calls) {
+                    Check.due(due.text + ", time " + time + ", in " + state, due.call.on(x), due.answer);
+                }
             }
-            List<Integer> touched = new ArrayList<>();
-            part.ask(x, state.w, touched);
-            String names = calls.size() == 1 ? calls.get(0).text : calls.size() + " calls";
-            Check.isTrue(names + " in " + state + " changes nothing: " + untouched + " before, "
-                + touched + " after", touched.equals(untouched));
+            part.ask(x, state.w, answers);
         }
+        return answers;
     }
 
     private static void askCounts(BitBlaster x, int w, List<Integer> answers) {
@@ -612,9 +636,18 @@ public final class EveryMethodTest {
     }
 
     private static void askValues(BitBlaster x, int w, List<Integer> answers) {
+        askValuesUnder(x, w, answers, 0);
+    }
+
+    private static void askMoreValues(BitBlaster x, int w, List<Integer> answers) {
+        askValuesUnder(x, w, answers, 4);
+    }
+
+    /** Some numbers all over the range; from 0 and from 4 these are all numbers of width 1. */
+    private static void askValuesUnder(BitBlaster x, int w, List<Integer> answers, int from) {
         int last = Fixture.lastNumber(w);
         for (int term = -1; term <= 28; term++) {
-            for (int i = 0; i < 7; i++) {
+            for (int i = from; i < from + 4; i++) {
                 answers.add(x.valueOf(term, i * 37 & last));
             }
             answers.add(x.valueOf(term, last));
@@ -624,7 +657,7 @@ public final class EveryMethodTest {
     private static void askTruths(BitBlaster x, int w, List<Integer> answers) {
         int last = Fixture.lastNumber(w);
         for (int test = -1; test <= 16; test++) {
-            for (int i = 0; i < 10; i++) {
+            for (int i = 0; i < 8; i++) {
                 answers.add(x.holds(test, i * 37 & last));
             }
             answers.add(x.holds(test, last));

@@ -41,7 +41,7 @@ final class Fixture {
         return with(w, 3, 0, 0);
     }
 
-    /** So many of each, the variables first; with 3 terms or more there is a solution. */
+    /** So many of each, the variables first; assignment 0 is always a solution. */
     static BitBlaster with(int w, int terms, int tests, int constraints) {
         BitBlaster x = new BitBlaster(w);
         for (int i = 0; i < terms; i++) {
@@ -51,29 +51,33 @@ final class Fixture {
             Check.due("the making of test " + i, makeTest(x, i, terms), i);
         }
         for (int i = 0; i < constraints; i++) {
-            // Asking for what holds under assignment 1 leaves that one a solution.
-            int test = i * 7 % tests;
-            Check.due("require " + i, x.require(test, x.holds(test, 1)), i + 1);
+            int test = i % tests;
+            Check.due("require " + i, x.require(test, x.holds(test, 0)), i + 1);
         }
         return x;
     }
 
     private static int makeTerm(BitBlaster x, int i) {
-        switch (i < 3 ? 0 : 1 + i % 4) {
+        if (i < 3) {
+            return x.variable(i);
+        }
+        switch (i < 7 ? 0 : i % 4) {
             case 0:
-                return x.variable(i);
+                return x.constant(i - 2);
             case 1:
-                return x.constant(i);
-            case 2:
                 return x.combine(i % 6, i - 1, i - 3);
-            case 3:
+            case 2:
                 return x.invert(i - 2);
             default:
                 return x.shift(i - 3, i % 9 - 4);
         }
     }
 
+    /** With 7 terms the first tests are of a variable and a constant, so each constraint matters. */
     private static int makeTest(BitBlaster x, int i, int terms) {
+        if (terms >= 7 && i < 10) {
+            return x.compare(BitBlaster.EQUAL, i % 3, 3 + i / 3);
+        }
         return i < 8 ? x.compare(i % 3, i % terms, (i + 1) % terms) : x.connect(i % 3, i - 8, i - 7);
     }
 
