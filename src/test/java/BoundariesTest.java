@@ -204,6 +204,23 @@ public final class BoundariesTest {
         });
     }
 
+    /** Terms made after term 0 are 1 .. 27, and none changes the value of one before it. */
+    private static void numbersFrom1(String what, CallWith call) {
+        forEachWidth(w -> {
+            BitBlaster x = Fixture.with(w, 1, 1, 0);
+            int last = Fixture.lastNumber(w);
+            int[] values = new int[28];
+            values[0] = Fixture.lastWord(w);
+            for (int i = 1; i < 28; i++) {
+                Check.due(what + " number " + i, call.on(x, i), i);
+                values[i] = x.valueOf(i, last);
+            }
+            for (int i = 0; i < 28; i++) {
+                Check.due("value of " + what + " number " + i, x.valueOf(i, last), values[i]);
+            }
+        });
+    }
+
     private static void isAlways(int w, int value, int want) {
         BitBlaster x = Fixture.withVariables(w);
         Check.due("constant(" + value + ")", x.constant(value), 3);
@@ -236,6 +253,8 @@ public final class BoundariesTest {
                     (x, term) -> x.combine(kind, term, term));
             }
         });
+        Check.sentence("5. otherwise answers its number", () ->
+            numbersFrom1("combine", (x, i) -> x.combine(i % 6, i - 1, 0)));
     }
 
     private static void invertAndShift() {
@@ -257,6 +276,8 @@ public final class BoundariesTest {
             noneGood("invert", w -> new BitBlaster(w), -3, (x, a) -> x.invert(a));
             onlyGoodTerms("invert", -3, (x, a) -> x.invert(a));
         });
+        Check.sentence("6. otherwise answers its number", () ->
+            numbersFrom1("invert", (x, i) -> x.invert(i - 1)));
         Check.sentence("7. a * 2^by modulo 2^w (by >= 0), up to all bits out", () -> forEachWidth(w -> {
             for (int by = 0; by <= 4; by++) {
                 int factor = new int[] {1, 2, 4, 8, 16}[by];
@@ -292,12 +313,18 @@ public final class BoundariesTest {
             onlyGoodTerms("shift by 0", -3, (x, a) -> x.shift(a, 0));
             onlyGoodTerms("shift by 4", -3, (x, a) -> x.shift(a, 4));
         });
+        Check.sentence("7. otherwise answers its number", () ->
+            numbersFrom1("shift", (x, i) -> x.shift(0, i % 9 - 4)));
     }
 
     private static void shiftIs(int w, int a, int by, int want) {
         BitBlaster x = Fixture.withVariables(w);
         int shifted = x.shift(2, by);
-        Check.due("shift of " + a + " by " + by + ", width " + w, x.valueOf(shifted, a), want);
+        int ofConstant = x.shift(x.constant(a), by);
+        String what = "shift of " + a + " by " + by + ", width " + w;
+        Check.due(what, x.valueOf(shifted, a), want);
+        Check.due(what + ", constant, under 0", x.valueOf(ofConstant, 0), want);
+        Check.due(what + ", constant, under the last", x.valueOf(ofConstant, Fixture.lastNumber(w)), want);
     }
 
     private static void choose() {
@@ -312,6 +339,8 @@ public final class BoundariesTest {
             onlyGoodTerms("choose, b", -3, (x, b) -> x.choose(0, 0, b));
             onlyGoodTerms("choose, both", -3, (x, term) -> x.choose(0, term, term));
         });
+        Check.sentence("8. otherwise answers its number", () ->
+            numbersFrom1("choose", (x, i) -> x.choose(0, i - 1, 0)));
         Check.sentence("8. a where the test holds and b where it does not, always or never", () ->
             forEachWidth(w -> {
                 BitBlaster x = Fixture.withVariables(w);
@@ -447,6 +476,16 @@ public final class BoundariesTest {
                     (x, test) -> x.connect(kind, test, test));
             }
         });
+        Check.sentence("10. otherwise answers its number, up to 15", () -> forEachWidth(w -> {
+            BitBlaster x = Fixture.with(w, 3, 2, 0);
+            for (int i = 2; i < 16; i++) {
+                Check.due("connect number " + i, x.connect(2, i - 1, i - 2), i);
+            }
+            // Just one of the two before: as in 1, 0, 1, 1, 0, 1, 1, 0 .., test 0 holding under 0.
+            for (int i = 0; i < 16; i++) {
+                Check.due("truth of test " + i, x.holds(i, 0), i % 3 == 1 ? 0 : 1);
+            }
+        }));
     }
 
     private static void requireAndRelease() {

@@ -3,9 +3,29 @@ final class Check {
     private static int checked = 0;
     private static int wrong = 0;
     private static int sentences = 0;
-    private static String where = "";
+    private static volatile String where = "";
+
+    /** No test takes more than some seconds. */
+    private static final long MOST_MILLISECONDS = 300_000;
+
+    static {
+        Thread watch = new Thread(Check::endIfTooLong);
+        watch.setDaemon(true);
+        watch.start();
+    }
 
     private Check() {
+    }
+
+    /** No call may fail to end: the test then fails too, in place of running on for ever. */
+    private static void endIfTooLong() {
+        try {
+            Thread.sleep(MOST_MILLISECONDS);
+        } catch (InterruptedException interrupted) {
+            return;
+        }
+        System.out.println(where + "not ended after " + MOST_MILLISECONDS + " milliseconds");
+        Runtime.getRuntime().halt(1);
     }
 
     /** The test of one sentence of the document: what it finds wrong is told under that sentence. */
